@@ -275,7 +275,7 @@ public final class RegularSolver {
             return (set & last) != 0L;
         }
 
-        /** Least and numbered in order already, since both stand on the same ways through it. */
+        /** Least and numbered in order as it is: the two differ only in which states are last. */
         Automaton opposite() {
             return new Automaton(states, next, ~last & (-1L >>> (MOST_STATES - states)));
         }
@@ -715,8 +715,8 @@ public final class RegularSolver {
     private static final class Search {
         private final Automaton[] assigned = new Automaton[VARIABLES];
         private final int[][] factors = new int[MOST_BOUNDS][VARIABLES];
-        private final long[] least = new long[MOST_BOUNDS];
-        private final long[] most = new long[MOST_BOUNDS];
+        private final int[] least = new int[MOST_BOUNDS];
+        private final int[] most = new int[MOST_BOUNDS];
         private int boundCount = 0;
 
         /** Of each variable the lengths that its words may have: bit n for length n. */
@@ -827,7 +827,7 @@ public final class RegularSolver {
                 return true;
             }
             long open = openLengths(v);
-            for (int n = 0; n <= LONGEST_WORD; n++) {
+            for (int n = 0; n <= LONGEST_WORD && open >>> n != 0L; n++) {
                 if ((open >>> n & 1L) != 0L) {
                     lengths[v] = n;
                     if (place(v + 1)) {
@@ -846,6 +846,7 @@ public final class RegularSolver {
             long from = 0L;
             long to = LONGEST_WORD;
             for (int i = 0; i < boundCount; i++) {
+                // A long, since least and most may be any int.
                 long sum = sumBefore(i, v);
                 long lower = least[i] - sum - restMost[i][v + 1];
                 long upper = most[i] - sum - restLeast[i][v + 1];
