@@ -839,8 +839,9 @@ public final class RegularSolver {
         }
 
         /**
-         * The lengths of variable v with which every bound can still hold, whatever the variables
-         * behind it do. Behind the last one there is none, so there every bound does hold.
+         * The lengths of variable v that no bound forbids: each bound by itself could still hold
+         * with some lengths of the variables behind. Behind the last one there is none, so with
+         * these lengths of the last one every bound does hold.
          */
         private long openLengths(int v) {
             long from = 0L;
