@@ -303,7 +303,8 @@ public final class BoundaryPromisesTest {
         for (int a : new int[] {none, empty, long62}) {
             int above = 4 * x.automaton(a, 0, 0);
             check.eachRefused("language " + a, Check.INDEX, ends, k -> x.automaton(a, 2, k));
-            check.eachRefused("language " + a, Check.INDEX, new int[] {above, above + 1}, k -> x.automaton(a, 2, k));
+            int[] aboves = {above, above + 1};
+            check.eachRefused("language " + a, Check.INDEX, aboves, k -> x.automaton(a, 2, k));
             check.due("just below", x.automaton(a, 0, 0) - 1, () -> x.automaton(a, 2, above - 1));
         }
     }
@@ -318,7 +319,8 @@ public final class BoundaryPromisesTest {
         for (int a : new int[] {all, two, not62}) {
             int above = x.automaton(a, 0, 0);
             check.eachRefused("language " + a, Check.INDEX, ends, k -> x.automaton(a, 3, k));
-            check.eachRefused("language " + a, Check.INDEX, new int[] {above, 4 * above - 1}, k -> x.automaton(a, 3, k));
+            int[] aboves = {above, above + 1, 4 * above - 1};
+            check.eachRefused("language " + a, Check.INDEX, aboves, k -> x.automaton(a, 3, k));
             check.due("just below", 1, () -> x.automaton(a, 3, above - 1));
         }
         check.due("no last one", 0, () -> x.automaton(two, 3, 0));
