@@ -6,6 +6,8 @@ import java.util.Random;
 public final class ReferenceTest {
     private static final int RUNS = 400;
     private static final int CALLS = 512;
+    private static final int SEARCH_RUNS = 100;
+    private static final int SEARCHES = 20;
 
     private final Check check = new Check("ReferenceTest");
     private Random random = new Random(1);
@@ -29,14 +31,29 @@ public final class ReferenceTest {
         test.check.that("runs meet automata that are too large: " + statesTooMany, statesTooMany > 50);
         test.check.that("runs solve: " + test.solved, test.solved > 200);
         test.check.that("runs fail to solve: " + test.unsolved, test.unsolved > 200);
+        test.searches();
         test.check.end();
     }
 
-    private void oneRun(int number) {
+    private void searches() {
+        solved = 0;
+        unsolved = 0;
+        for (int number = RUNS + 1; number <= RUNS + SEARCH_RUNS; number++) {
+            searchRun(number);
+        }
+        check.that("searches solve: " + solved, solved > 200);
+        check.that("searches fail to solve: " + unsolved, unsolved > 200);
+    }
+
+    private void begin(int number) {
         run = number;
         random = new Random(number);
         solver = new RegularSolver();
         reference = new Reference();
+    }
+
+    private void oneRun(int number) {
+        begin(number);
         // Runs that fill all 60 places at once would never get far enough to make large languages.
         int makeOf = 2 + random.nextInt(6);
         for (int k = 0; k < 4; k++) {
@@ -56,6 +73,46 @@ public final class ReferenceTest {
             }
         }
         compareLanguages();
+    }
+
+    /** Many bounds at once, round some lengths, so that solutions are not only among short words. */
+    private void searchRun(int number) {
+        begin(number);
+        letters(15);
+        again(0);
+        then(0, 0);
+        then(2, 0);
+        again(2);
+        again(3);
+        then(4, 0);
+        not(5);
+        for (int k = 0; k < SEARCHES; k++) {
+            clear();
+            int m = 5 + random.nextInt(12);
+            int[] lengths = new int[4];
+            for (int v = 0; v < 4; v++) {
+                variable(v, random.nextInt(reference.count()));
+                lengths[v] = random.nextInt(m + 1);
+            }
+            int bounds = 1 + random.nextInt(8);
+            for (int i = 0; i < bounds; i++) {
+                boundRound(lengths, 1 + random.nextInt(random.nextBoolean() ? 4 : 100));
+            }
+            solveCall(m);
+        }
+    }
+
+    private void boundRound(int[] lengths, int greatest) {
+        int[] factors = new int[4];
+        int sum = 0;
+        for (int v = 0; v < 4; v++) {
+            factors[v] = random.nextInt(3) == 0 ? 0 : random.nextInt(2 * greatest + 1) - greatest;
+            sum += factors[v] * lengths[v];
+        }
+        int width = 1 + random.nextInt(10 * greatest);
+        int least = random.nextInt(4) == 0 ? Integer.MIN_VALUE : sum - random.nextInt(width);
+        int most = random.nextInt(4) == 0 ? Integer.MAX_VALUE : sum + random.nextInt(width);
+        bound(factors, least, most);
     }
 
     /** Languages with many states, so that ways and automata come near their limits. */
@@ -100,7 +157,7 @@ public final class ReferenceTest {
                 same("and(" + a + ", " + b + ")", () -> solver.and(a, b), () -> reference.and(a, b));
                 break;
             case 10:
-                same("not(" + a + ")", () -> solver.not(a), () -> reference.not(a));
+                not(a);
                 break;
             default:
                 again(a);
@@ -110,6 +167,10 @@ public final class ReferenceTest {
 
     private void then(int a, int b) {
         same("then(" + a + ", " + b + ")", () -> solver.then(a, b), () -> reference.then(a, b));
+    }
+
+    private void not(int a) {
+        same("not(" + a + ")", () -> solver.not(a), () -> reference.not(a));
     }
 
     private void again(int a) {
@@ -158,16 +219,14 @@ public final class ReferenceTest {
         int v = random.nextInt(25) == 0 ? wild() : random.nextInt(4);
         switch (random.nextInt(10)) {
             case 0, 1, 2:
-                int a = random.nextInt(8) == 0 ? -1 : anyLanguage();
-                same("variable(" + v + ", " + a + ")",
-                        act(() -> solver.variable(v, a)), act(() -> reference.variable(v, a)));
+                variable(v, random.nextInt(8) == 0 ? -1 : anyLanguage());
                 break;
             case 3, 4:
                 boundCall();
                 break;
             case 5:
                 if (random.nextInt(3) == 0) {
-                    same("clear()", act(() -> solver.clear()), act(() -> reference.clear()));
+                    clear();
                 }
                 break;
             case 6, 7:
@@ -195,15 +254,29 @@ public final class ReferenceTest {
         }
     }
 
+    private void variable(int v, int a) {
+        same("variable(" + v + ", " + a + ")", Check.answering(() -> solver.variable(v, a)),
+                Check.answering(() -> reference.variable(v, a)));
+    }
+
+    private void clear() {
+        same("clear()", Check.answering(() -> solver.clear()), Check.answering(() -> reference.clear()));
+    }
+
     private void boundCall() {
-        int p = factor();
-        int q = factor();
-        int r = factor();
-        int s = factor();
+        int[] factors = {factor(), factor(), factor(), factor()};
         int middle = random.nextInt(10) == 0 ? wild() : random.nextInt(40) - 10;
         int width = random.nextInt(3) == 0 ? 0 : random.nextInt(60) - 3;
         int least = random.nextInt(8) == 0 ? Integer.MIN_VALUE : middle;
         int most = random.nextInt(8) == 0 ? Integer.MAX_VALUE : middle + width;
+        bound(factors, least, most);
+    }
+
+    private void bound(int[] factors, int least, int most) {
+        int p = factors[0];
+        int q = factors[1];
+        int r = factors[2];
+        int s = factors[3];
         same("bound(" + p + ", " + q + ", " + r + ", " + s + ", " + least + ", " + most + ")",
                 () -> solver.bound(p, q, r, s, least, most), () -> reference.bound(p, q, r, s, least, most));
     }
@@ -278,12 +351,5 @@ public final class ReferenceTest {
         String told = Check.told(got);
         check.that("run " + run + ": " + what + " answered " + told + ", due is " + due, told.equals(due));
         return due;
-    }
-
-    private static Check.Call act(Check.Act act) {
-        return () -> {
-            act.run();
-            return 0;
-        };
     }
 }
